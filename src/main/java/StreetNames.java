@@ -84,7 +84,7 @@ public final class StreetNames {
         tape = new Tape();
         reader = new Reader(tape);
         ear = new Ear();
-        planner = new Planner(ear);
+        planner = new Planner();
         numbering = new Numbering();
         now = new Town();
         past = new Past();
@@ -190,7 +190,7 @@ public final class StreetNames {
             return NONE;
         }
         int bySound = one.sound[k] == two.sound[n] ? 1 : 0;
-        int byLetters = ear.isNear(now.rules.near, one.word[k], two.word[n]) ? 2 : 0;
+        int byLetters = Word.isWithin(one.word[k], two.word[n], now.rules.near) ? 2 : 0;
         return bySound + byLetters;
     }
 
@@ -316,12 +316,12 @@ public final class StreetNames {
             return 1;
         }
         for (int s = 0; s < now.streets.count; s++) {
-            if (s != street && ear.areAlike(now, OF_POOL, k, OF_STREETS, s)) {
+            if (s != street && now.areAlike(now.pool, k, now.streets, s)) {
                 return 2;
             }
         }
         for (int a = 0; a < now.aliases.count; a++) {
-            if (now.isLiveOfAnother(a, street) && ear.areAlike(now, OF_POOL, k, OF_ALIASES, a)) {
+            if (now.isLiveOfAnother(a, street) && now.areAlike(now.pool, k, now.aliases, a)) {
                 return 3;
             }
         }
@@ -647,6 +647,23 @@ public final class StreetNames {
             }
             return length;
         }
+
+        /** Whether so many CHANGES at most make the one the other. To change like beginnings never helps. */
+        private static boolean isWithin(long one, long two, int most) {
+            long a = one;
+            long b = two;
+            for (int i = 0; i < MOST_LETTERS && (a & MASK) == (b & MASK); i++) {
+                a >>= BITS;
+                b >>= BITS;
+            }
+            if (a == b || most <= 0) {
+                return a == b;
+            }
+            long restOfA = a >> BITS;
+            long restOfB = b >> BITS;
+            return isWithin(restOfA, restOfB, most - 1) || isWithin(restOfA, b, most - 1)
+                || isWithin(a, restOfB, most - 1);
+        }
     }
 
     /** The bytes that were fed, and the words that stand in them. */
@@ -717,6 +734,8 @@ public final class StreetNames {
         private static final int OTHER = 4;
         private static final int BLANK = 5;
         private static final int MOST_DIGITS = 4;
+        /** The KEY of a NAME while rules may still be told. */
+        private static final long UNHEARD = 0L;
 
         final Town draft = new Town();
         int fault;
@@ -902,7 +921,7 @@ public final class StreetNames {
             if (!isNewName()) {
                 return false;
             }
-            draft.streets.add(word);
+            draft.streets.add(word, UNHEARD);
             return true;
         }
 
@@ -957,7 +976,7 @@ public final class StreetNames {
             if (!isStreetName()) {
                 return false;
             }
-            draft.addAlias(name, draft.streets.placeOf(word), 0);
+            draft.addAlias(name, UNHEARD, draft.streets.placeOf(word), 0);
             return true;
         }
 
@@ -973,7 +992,7 @@ public final class StreetNames {
                 if (draft.pool.isFull()) {
                     return fails(4);
                 }
-                draft.pool.add(word);
+                draft.pool.add(word, UNHEARD);
             }
             return fails(4);
         }
@@ -1168,10 +1187,10 @@ public final class StreetNames {
             return NONE;
         }
 
-        void add(long name) {
+        void add(long name, long itsSound) {
             if (!isFull()) {
                 word[count] = name;
-                sound[count] = 0L;
+                sound[count] = itsSound;
                 count++;
             }
         }
@@ -1322,6 +1341,10 @@ public final class StreetNames {
             return streets.placeOf(name) != NONE || pool.placeOf(name) != NONE || aliases.placeOf(name) != NONE;
         }
 
+        boolean areAlike(Names ones, int k, Names others, int n) {
+            return ones.sound[k] == others.sound[n] || Word.isWithin(ones.word[k], others.word[n], rules.near);
+        }
+
         boolean isLive(int k) {
             return aliasLast[k] >= year;
         }
@@ -1349,11 +1372,11 @@ public final class StreetNames {
             return NONE;
         }
 
-        void addAlias(long name, int street, int lastYear) {
+        void addAlias(long name, long itsSound, int street, int lastYear) {
             if (!aliases.isFull()) {
                 aliasStreet[aliases.count] = street;
                 aliasLast[aliases.count] = lastYear;
-                aliases.add(name);
+                aliases.add(name, itsSound);
             }
         }
 
@@ -1369,8 +1392,7 @@ public final class StreetNames {
         /** The STREET TAKES the NAME; what goes goes first, so that there is room where 30 stay. */
         void rename(int street, int k) {
             dropAlias(ownAlias(street, pool.word[k]));
-            addAlias(streets.word[street], street, year + rules.last);
-            aliases.sound[aliases.count - 1] = streets.sound[street];
+            addAlias(streets.word[street], streets.sound[street], street, year + rules.last);
             streets.word[street] = pool.word[k];
             streets.sound[street] = pool.sound[k];
         }
@@ -1449,20 +1471,6 @@ public final class StreetNames {
             }
             return row[width];
         }
-
-        boolean isNear(int near, long one, long two) {
-            // lengths that differ by more need more letters put in: the table is spared
-            return Math.abs(Word.lengthOf(one) - Word.lengthOf(two)) <= near && distance(one, two) <= near;
-        }
-
-        boolean areAlike(Town town, int kind, int k, int other, int n) {
-            Names one = town.ofKind(kind);
-            Names two = town.ofKind(other);
-            if (one == null || two == null || !one.holds(k) || !two.holds(n)) {
-                return false;
-            }
-            return one.sound[k] == two.sound[n] || isNear(town.rules.near, one.word[k], two.word[n]);
-        }
     }
 
     /** CLASHES and THE PLAN. What was learned holds until it is told to forget. */
@@ -1471,9 +1479,8 @@ public final class StreetNames {
         private static final int LONG_BITS = 64;
 
         /** The STREETS of THE PLAN as bits; NONE without one. */
-        int chosen;
+        int chosen = NONE;
         final int[] given = new int[MOST_STREETS];
-        private final Ear ear;
         private boolean knowsClashes;
         private boolean knowsPlan;
         private int streetCount;
@@ -1487,11 +1494,6 @@ public final class StreetNames {
         /** Sets of given NAMES from which no way leads on, a bit each. */
         private final long[] dead = new long[MASKS / LONG_BITS];
 
-        Planner(Ear theEar) {
-            ear = theEar;
-            chosen = NONE;
-        }
-
         void forget() {
             knowsClashes = false;
             knowsPlan = false;
@@ -1504,7 +1506,7 @@ public final class StreetNames {
             Arrays.fill(clashing, 0);
             for (int s = 0; s < town.streets.count; s++) {
                 for (int t = s + 1; t < town.streets.count; t++) {
-                    if (ear.areAlike(town, OF_STREETS, s, OF_STREETS, t)) {
+                    if (town.areAlike(town.streets, s, town.streets, t)) {
                         clashing[s] |= 1 << t;
                         clashing[t] |= 1 << s;
                     }
@@ -1600,12 +1602,12 @@ public final class StreetNames {
                 boolean isFree = town.streets.placeOf(town.pool.word[k]) == NONE;
                 int bits = isFree ? (1 << streetCount) - 1 : 0;
                 for (int s = 0; s < streetCount && bits != 0; s++) {
-                    if (ear.areAlike(town, OF_POOL, k, OF_STREETS, s)) {
+                    if (town.areAlike(town.pool, k, town.streets, s)) {
                         bits &= 1 << s;
                     }
                 }
                 for (int a = 0; a < town.aliases.count && bits != 0; a++) {
-                    if (town.isLive(a) && ear.areAlike(town, OF_POOL, k, OF_ALIASES, a)) {
+                    if (town.isLive(a) && town.areAlike(town.pool, k, town.aliases, a)) {
                         bits &= 1 << town.aliasStreet[a];
                     }
                 }
@@ -1619,7 +1621,7 @@ public final class StreetNames {
             }
             for (int k = 0; k < poolCount; k++) {
                 for (int n = k + 1; n < poolCount; n++) {
-                    if (ear.areAlike(town, OF_POOL, k, OF_POOL, n)) {
+                    if (town.areAlike(town.pool, k, town.pool, n)) {
                         rivals[k] |= 1 << n;
                         rivals[n] |= 1 << k;
                     }

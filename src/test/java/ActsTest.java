@@ -3,7 +3,7 @@ public final class ActsTest {
     public static void main(String[] args) {
         take();
         carry();
-        carryAtTheLimit();
+        carryBehindTake();
         renumber();
         build();
         tear();
@@ -66,50 +66,22 @@ public final class ActsTest {
         Check.due("no act", x.has(11), 0);
     }
 
-    /** Streets that clash, and many aliases. */
-    private static StreetNames crowded() {
-        StringBuilder text = new StringBuilder("near 1;last 99;street xxxa;street xxxb;street zzzz;");
-        for (int i = 0; i < 12; i++) {
-            text.append("alias ").append("qq").append((char) ('a' + i)).append(" of zzzz;");
-        }
-        text.append("pool ddd eee fff ggg hhh iii jjj kkk lll mmm nnn ooo;");
-        return Check.of(text.toString());
-    }
-
-    private static void carryAtTheLimit() {
-        StreetNames x = crowded();
-        Check.due("the plan", x.plan(2), 1);
-        // the third street uses up all names but the last: 23 aliases, then those of the others
-        for (int k = 0; k < 8; k++) {
-            x.take(2, k);
-        }
-        Check.due("aliases", x.has(2), 20);
-        Check.due("planned", x.planned(0), 8);
+    /** What one STREET took ahead of it bears on THE PLAN: its NAME, and its ALIASES while they are LIVE. */
+    private static void carryBehindTake() {
+        StreetNames x = Check.of("last 2;street mill;street milk;street oak;pool bay bat yew;");
+        Check.due("oak takes bay", x.take(2, 0), 1);
+        Check.due("bat is alike to it", x.planned(0), 2);
+        Check.due("oak takes yew", x.take(2, 2), 2);
+        Check.due("bat is alike to its alias", x.plan(0), -1);
+        Check.due("no plan", x.carry(), -1);
+        x.years(2);
+        Check.due("live yet", x.carry(), -1);
+        x.years(1);
+        Check.due("live no more", x.planned(0), 0);
         Check.due("carry", x.carry(), 1);
-        Check.due("aliases", x.has(2), 21);
-
-        StringBuilder text = new StringBuilder("near 0;last 99;pair yy y;");
-        for (int s = 0; s < 6; s++) {
-            text.append("street s").append((char) ('a' + s)).append(';');
-        }
-        for (int i = 0; i < 12; i++) {
-            text.append("alias q").append((char) ('a' + i)).append(" of sa;");
-        }
-        text.append("pool pa pb pc pd pe pf saa sbb scc sdd see sff;");
-        x = Check.of(text.toString());
-        // names that sound like what the street was called are free to that street alone
-        for (int s = 0; s < 6; s++) {
-            Check.due("own sound", x.why(s, 6 + s), 0);
-            Check.due("take", x.take(s, s), 13 + s);
-        }
-        for (int s = 0; s < 6; s++) {
-            Check.due("take", x.take(s, 6 + s), 19 + s);
-        }
-        Check.due("aliases", x.has(2), 24);
-        for (int s = 0; s < 6; s++) {
-            Check.due("its own alias goes", x.take(s, s), 24);
-        }
-        Check.due("no clash", x.clash(-1), 0);
+        Check.same("the first of the pool", Check.name(x, 0, 0), "bay");
+        Check.due("aliases", x.has(2), 1);
+        Check.due("up to", x.alias(0, 1), 5);
     }
 
     private static void renumber() {
