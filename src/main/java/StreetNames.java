@@ -1578,13 +1578,10 @@ public final class StreetNames {
 
         private void choose(Town town) {
             for (int set = 1; set < 1 << streetCount; set++) {
+                // what is given changes only where a whole set can be, so it is always that of the chosen one
                 if (isTight(set, streetCount) && isBetter(town, set) && canBeGiven(set)) {
                     chosen = set;
                 }
-            }
-            if (chosen != NONE) {
-                // the latest set that was tried may be another one
-                canBeGiven(chosen);
             }
         }
 

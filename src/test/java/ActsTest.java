@@ -39,6 +39,38 @@ public final class ActsTest {
         Check.due("no name", x.take(0, -1), -1);
         Check.due("refused", x.status(2), 6);
         Check.due("acts", x.has(11), 4);
+        takeOwnAlias();
+    }
+
+    /** Those behind an ALIAS that goes stay what they were. */
+    private static void takeOwnAlias() {
+        StreetNames x = Check.of("near 0;last 5;same xy;street oak;street elm;pool bay yew fxy;");
+        x.take(0, 0);
+        x.years(3);
+        x.take(0, 1);
+        x.take(1, 2);
+        x.years(1);
+        x.undo();
+        Check.due("oak, bay, elm", x.has(2), 3);
+        x.years(3);
+        Check.due("oak is gone", x.has(2), 2);
+        Check.same("bay", Check.name(x, 2, 0), "bay");
+        Check.same("its key", Check.key(x, 2, 0), "bax");
+        Check.due("its street", x.alias(0, 0), 0);
+        Check.due("its last year", x.alias(0, 1), 8);
+        Check.same("elm", Check.name(x, 2, 1), "elm");
+        Check.same("its key", Check.key(x, 2, 1), "elm");
+        Check.due("its street", x.alias(1, 0), 1);
+        Check.due("its last year", x.alias(1, 1), 8);
+        Check.due("the first alias goes, the old name comes", x.take(0, 0), 2);
+        Check.same("elm", Check.name(x, 2, 0), "elm");
+        Check.same("its key", Check.key(x, 2, 0), "elm");
+        Check.due("its street", x.alias(0, 0), 1);
+        Check.due("its last year", x.alias(0, 1), 8);
+        Check.same("yew", Check.name(x, 2, 1), "yew");
+        Check.same("its key", Check.key(x, 2, 1), "xew");
+        Check.due("its street", x.alias(1, 0), 0);
+        Check.due("its last year", x.alias(1, 1), 11);
     }
 
     private static void carry() {
@@ -150,6 +182,27 @@ public final class ActsTest {
         Check.due("tear", x.tear(0, 0), 0);
         Check.due("none left", x.tear(0, 0), -1);
         Check.due("built anew", x.build(0, 0, 0), 1);
+        tearInFullTown();
+    }
+
+    private static void tearInFullTown() {
+        StringBuilder text = new StringBuilder("step 99;");
+        for (int s = 0; s < 10; s++) {
+            text.append("street s").append((char) ('a' + s)).append(';');
+        }
+        StreetNames x = Check.of(text.toString());
+        for (int s = 8; s < 10; s++) {
+            for (int h = 0; h < 12; h++) {
+                Check.due("build", x.build(s, h % 2, 5 * h), h + 1);
+            }
+        }
+        Check.due("the last of the last", x.tear(9, 11), 11);
+        Check.due("the first of the last", x.tear(9, 0), 10);
+        Check.due("now the first", x.house(9, 0, 2), 2);
+        Check.due("now the last", x.house(9, 9, 2), 11);
+        Check.due("the first ahead of it", x.tear(8, 0), 11);
+        Check.due("its last", x.house(8, 10, 2), 12);
+        Check.due("the next street", x.house(9, 0, 2), 2);
     }
 
     private static void years() {

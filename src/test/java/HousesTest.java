@@ -6,6 +6,7 @@ public final class HousesTest {
         ordered();
         fewest();
         least();
+        twelveOnOneSide();
         noWay();
         would();
         stepped();
@@ -103,6 +104,15 @@ public final class HousesTest {
         numbers(oak("", "left 0 5", "left 1 4", "left 2 4", "left 3 9"), 3, 1, 3, 5, 9);
     }
 
+    private static void twelveOnOneSide() {
+        String[] told = new String[12];
+        for (int i = 0; i < 12; i++) {
+            told[i] = "right " + (120 - 10 * i) + " " + (i == 0 ? 26 : 2);
+        }
+        numbers(oak("", told), 11, 26, 24, 22, 20, 18, 16, 14, 12, 10, 8, 6, 4);
+        numbers(oak("step 99;", told), 10, 26, 22, 20, 18, 16, 14, 12, 10, 8, 6, 4, 2);
+    }
+
     private static void noWay() {
         StreetNames x = oak("", "left 9999 1");
         numbers(x, -1);
@@ -147,6 +157,10 @@ public final class HousesTest {
         Check.due("above all at lesser yards", x.would(0, 0, 11), 9);
         Check.due("even above odd", x.would(0, 1, 6), 4);
         Check.due("even below odd", x.would(0, 1, 4), 2);
+        Check.due("999 and two", oak("", "right 0 998").would(0, 1, 1), -1);
+        x = oak("step 99;");
+        Check.due("the farthest", x.would(0, 0, 9999), 203);
+        Check.due("beyond", x.would(0, 0, 10000), -1);
         x = oak("", "left 0 999");
         Check.due("above 999", x.would(0, 0, 1), -1);
         Check.due("no house was built", x.houses(0), 1);

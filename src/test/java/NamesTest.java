@@ -225,6 +225,9 @@ public final class NamesTest {
         Check.due("no other street", x.nearest(0, 0, 0), -1);
         Check.due("no other street, many", x.nearest(0, 0, 1), -1);
         Check.due("the only one", x.nearest(1, 0, 0), 0);
+        x = Check.of("street abcdefghij;street zz;pool klmnopqrst;");
+        Check.due("all letters are others", x.nearest(1, 0, 0), 0);
+        Check.due("all letters are others, many", x.nearest(1, 0, 1), 2);
         x = Check.of("pool elm;");
         Check.due("no streets", x.nearest(1, 0, 0), -1);
         Check.due("no streets, many", x.nearest(1, 0, 1), -1);

@@ -4,6 +4,7 @@ public final class TapeAndTownTest {
         newObject();
         tape();
         town();
+        towns();
         settings();
         faultsOfText();
         faultsOfNumbers();
@@ -21,6 +22,9 @@ public final class TapeAndTownTest {
         for (int what = 0; what < due.length; what++) {
             Check.due("new: has(" + what + ")", x.has(what), due[what]);
         }
+        Check.due("new: fault(0)", x.fault(0), 0);
+        Check.due("new: fault(1)", x.fault(1), -1);
+        Check.due("new: heardAt(0)", x.heardAt(0), -1);
         Check.due("has(12)", x.has(12), -1);
         Check.due("has(-1)", x.has(-1), -1);
         Check.due("has(least)", x.has(Integer.MIN_VALUE), -1);
@@ -94,6 +98,23 @@ public final class TapeAndTownTest {
         }
     }
 
+    /** What one text told bears on no later one. */
+    private static void towns() {
+        StreetNames x = new StreetNames();
+        for (int i = 0; i < 3; i++) {
+            Check.due("near, last, step, mute again", Check.town(x, "near 1;last 1;step 1;mute a;street a;"), 1);
+            Check.due("same, pair again", Check.town(x, "same ab;pair ab c;pool a;"), 0);
+            Check.due("fault ahead of a word", Check.town(x, "x y"), -1);
+            Check.due("a word first", Check.town(x, "street a;"), 1);
+            Check.due("fault ahead of a number", Check.town(x, "x 1"), -1);
+            Check.due("a word first", Check.town(x, "street a;house a left 1 1;"), 1);
+            Check.due("house again", Check.town(x, "street a;house a left 1 1;alias b of a;"), 1);
+            Check.due("houses", x.houses(0), 1);
+            Check.due("groups", x.has(8), 0);
+            Check.due("mute", x.has(10), 0);
+        }
+    }
+
     private static void settings() {
         StreetNames x = Check.of("near 0;last 0;step 1;mute abcdefghijklmnopqrstuvwxyz;");
         Check.due("near", x.has(5), 0);
@@ -156,6 +177,9 @@ public final class TapeAndTownTest {
         faulty("mute a b;", 1, 7);
         faulty("mute abcdefghijklmnopqrstuvwxyza;", 1, 5);
         faulty("same abcdefghijklmnopqrstuvwxyzz;", 1, 5);
+        faulty("same a;", 1, 5);
+        faulty("same;", 1, 4);
+        faulty("same 12;", 1, 5);
         faulty("pair a b;", 1, 5);
         faulty("pair ab;", 1, 7);
         faulty("pair ab cc;", 1, 8);
