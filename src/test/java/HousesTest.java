@@ -90,6 +90,7 @@ public final class HousesTest {
         numbers(oak("", "left 0 11", "left 1 13", "left 2 1"), 1, 11, 13, 15);
         numbers(oak("", "left 0 11", "left 1 1"), 1, 11, 13);
         numbers(oak("", "right 0 12", "right 50 4", "right 60 14"), 2, 2, 12, 14);
+        numbers(oak("", "left 0 5", "left 1 2", "left 2 11", "left 3 4", "left 4 21"), 2, 5, 7, 11, 13, 21);
         Check.due("no street", oak("").fewest(1), -1);
         Check.due("no street", oak("").fewest(-1), -1);
     }

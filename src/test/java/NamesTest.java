@@ -92,7 +92,8 @@ public final class NamesTest {
         Check.due("sound", x.alike(0, 0, 0, 3), 1);
         Check.due("neither", x.alike(0, 0, 0, 4), 0);
         Check.due("itself", x.alike(0, 4, 0, 4), 3);
-        Check.due("alias", x.alike(2, 0, 0, 0), 2);
+        Check.due("a letter left out", x.alike(0, 0, 2, 0), 2);
+        Check.due("a letter put in", x.alike(2, 0, 0, 0), 2);
         Check.due("two changes", x.alike(0, 1, 0, 2), 0);
         Check.due("no such", x.alike(0, 5, 0, 0), -1);
         Check.due("no such other", x.alike(0, 0, 1, 0), -1);
