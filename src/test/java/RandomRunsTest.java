@@ -5,6 +5,7 @@ import java.util.Random;
 /** Runs of calls by seeds, answered by the class and by PlainModel: all of them must be the same. */
 public final class RandomRunsTest {
     private static final int CALLS = 500;
+    private static final String[] KIN = {"xyz", "uvw", "rst", "opq", "klm"};
     private static int wrong = 0;
 
     private final Random random;
@@ -21,15 +22,90 @@ public final class RandomRunsTest {
     }
 
     public static void main(String[] args) {
-        int runs = args.length > 1 ? Integer.parseInt(args[1]) : 400;
+        int runs = args.length > 1 ? Integer.parseInt(args[1]) : 150;
         int first = args.length > 2 ? Integer.parseInt(args[2]) : 0;
         for (int seed = first; seed < first + runs && wrong < 5; seed++) {
             new RandomRunsTest(seed).run();
+            new RandomRunsTest(seed).runPlans();
+            new RandomRunsTest(seed).runNumbers();
         }
         System.out.println("RandomRunsTest: " + runs + " runs, " + wrong + " differ");
         if (wrong != 0) {
             System.exit(1);
         }
+    }
+
+    /** Towns whose names hang together, so that THE PLAN has much to mind. */
+    private void runPlans() {
+        while (calls < CALLS && !differs) {
+            List<String> names = new ArrayList<>();
+            for (int i = 0; i < 200 && names.size() < 34; i++) {
+                String name = letters("abc", 1) + letters("abc", 1) + letters("abc", 1)
+                    + KIN[random.nextInt(names.size() < 8 ? 2 : KIN.length)];
+                if (!names.contains(name)) {
+                    names.add(name);
+                }
+            }
+            int streets = 4 + random.nextInt(5);
+            int aliases = streets + random.nextInt(6);
+            int pool = Math.min(names.size(), aliases + 2 + random.nextInt(7));
+            StringBuilder text = new StringBuilder("near 1;");
+            for (int i = 0; i < Math.min(pool, names.size()); i++) {
+                String street = names.get(random.nextInt(streets));
+                text.append(i < streets ? "street " + names.get(i) : i < aliases
+                    ? "alias " + names.get(i) + " of " + street : "pool " + names.get(i)).append(';');
+            }
+            for (int i = random.nextInt(8); i > 0; i--) {
+                text.append("house ").append(names.get(random.nextInt(streets))).append(" left ").append(i).append(" 1;");
+            }
+            tell(text.toString());
+            askPlan();
+            same("carry", x.carry(), y.carry());
+            askPlan();
+        }
+        tellIfDiffers();
+    }
+
+    private void askPlan() {
+        for (int what = 0; what < 3; what++) {
+            same("plan(" + what + ")", x.plan(what), y.plan(what));
+        }
+        for (int s = 0; s < y.now.streets.size(); s++) {
+            same("planned(" + s + ")", x.planned(s), y.planned(s));
+            same("circle(" + s + ")", x.circle(s), y.circle(s));
+        }
+        same("least", x.least(), y.least());
+    }
+
+    /** Streets with many houses, most of them in order or nearly so. */
+    private void runNumbers() {
+        while (calls < CALLS && !differs) {
+            StringBuilder text = new StringBuilder("street a;step " + (1 + random.nextInt(30)) + ";");
+            int houses = 4 + random.nextInt(9);
+            boolean[] taken = new boolean[200];
+            int width = 5 + random.nextInt(150);
+            for (int i = 0; i < houses; i++) {
+                int side = random.nextInt(5) == 0 ? 1 : 0;
+                int yards = random.nextInt(width);
+                if (side == 1 || !taken[yards]) {
+                    taken[yards] = taken[yards] || side == 0;
+                    int number = random.nextInt(3) == 0 ? 1 + random.nextInt(40) : yards / 3 * 2 + 1 + side;
+                    text.append(side == 0 ? "house a left " : "house a right ")
+                        .append(side == 0 ? yards : 300 + i).append(' ').append(number).append(';');
+                }
+            }
+            tell(text.toString());
+            same("ordered", x.ordered(0), y.ordered(0));
+            same("fewest", x.fewest(0), y.fewest(0));
+            for (int h = 0; h < houses; h++) {
+                same("then(" + h + ")", x.then(0, h), y.then(0, h));
+                int step = 1 + random.nextInt(99);
+                same("stepped(" + step + ")", x.stepped(0, step), y.stepped(0, step));
+            }
+            same("renumber", x.renumber(0), y.renumber(0));
+            same("ordered", x.ordered(0), y.ordered(0));
+        }
+        tellIfDiffers();
     }
 
     private void run() {
@@ -47,6 +123,10 @@ public final class RandomRunsTest {
                 ask();
             }
         }
+        tellIfDiffers();
+    }
+
+    private void tellIfDiffers() {
         if (differs) {
             wrong++;
             System.out.println("seed " + seed + ":");
