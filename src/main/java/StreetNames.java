@@ -260,7 +260,6 @@ public final class StreetNames {
         long word = names.word[k];
         int fewest = MOST_LETTERS + 1;
         int first = NONE;
-        int many = 0;
         for (int s = 0; s < now.streets.count; s++) {
             if (kind == OF_STREETS && s == k) {
                 continue;
@@ -269,13 +268,9 @@ public final class StreetNames {
             if (apart < fewest) {
                 fewest = apart;
                 first = s;
-                many = 0;
-            }
-            if (apart == fewest) {
-                many++;
             }
         }
-        return first == NONE || what == 0 ? first : many;
+        return first == NONE || what == 0 ? first : fewest;
     }
 
     // ---- clashes

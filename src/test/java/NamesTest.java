@@ -208,29 +208,45 @@ public final class NamesTest {
         Check.due("never, as years end", Check.fades(x, "oak"), -1);
     }
 
+    /** What 1 tells how many CHANGES the fewest are, not how many STREETS are as near. */
     private static void nearest() {
-        StreetNames x = Check.of("street mill;street milk;street hill;street oak;alias oat of mill;pool bill;");
+        StreetNames x = Check.of("street mill;street milk;street hill;street oak;alias oats of mill;pool bill maple;");
         Check.due("of street 0", x.nearest(0, 0, 0), 1);
-        Check.due("of street 0, many", x.nearest(0, 0, 1), 2);
+        Check.due("of street 0, changes, two streets so near", x.nearest(0, 0, 1), 1);
         Check.due("of street 1", x.nearest(0, 1, 0), 0);
-        Check.due("of street 1, many", x.nearest(0, 1, 1), 1);
+        Check.due("of street 1, changes", x.nearest(0, 1, 1), 1);
+        Check.due("of street 3", x.nearest(0, 3, 0), 1);
+        Check.due("of street 3, changes", x.nearest(0, 3, 1), 3);
         Check.due("of the pool", x.nearest(1, 0, 0), 0);
-        Check.due("of the pool, many", x.nearest(1, 0, 1), 2);
+        Check.due("of the pool, changes, two streets so near", x.nearest(1, 0, 1), 1);
+        Check.due("of the pool, several so near", x.nearest(1, 1, 0), 0);
+        Check.due("of the pool, several so near, changes", x.nearest(1, 1, 1), 3);
         Check.due("of an alias", x.nearest(2, 0, 0), 3);
-        Check.due("of an alias, many", x.nearest(2, 0, 1), 1);
+        Check.due("of an alias, changes", x.nearest(2, 0, 1), 2);
         Check.due("for others", x.nearest(0, 0, 2), -1);
         Check.due("for others", x.nearest(0, 0, -1), -1);
         Check.due("none such", x.nearest(0, 4, 0), -1);
+        Check.due("none such, changes", x.nearest(1, 2, 1), -1);
+        Check.due("none such, below", x.nearest(2, -1, 1), -1);
         Check.due("no kind", x.nearest(3, 0, 0), -1);
-        x = Check.of("street oak;pool elm;");
+        Check.due("no kind, changes", x.nearest(-1, 0, 1), -1);
+        nearestAtEdges();
+    }
+
+    private static void nearestAtEdges() {
+        StreetNames x = Check.of("street oak;pool elm;");
         Check.due("no other street", x.nearest(0, 0, 0), -1);
-        Check.due("no other street, many", x.nearest(0, 0, 1), -1);
+        Check.due("no other street, changes", x.nearest(0, 0, 1), -1);
         Check.due("the only one", x.nearest(1, 0, 0), 0);
+        Check.due("the only one, changes", x.nearest(1, 0, 1), 3);
+        x.take(0, 0);
+        Check.due("a name of the pool that a street has", x.nearest(1, 0, 0), 0);
+        Check.due("a name of the pool that a street has, changes", x.nearest(1, 0, 1), 0);
         x = Check.of("street abcdefghij;street zz;pool klmnopqrst;");
         Check.due("all letters are others", x.nearest(1, 0, 0), 0);
-        Check.due("all letters are others, many", x.nearest(1, 0, 1), 2);
+        Check.due("all letters are others, changes", x.nearest(1, 0, 1), 10);
         x = Check.of("pool elm;");
         Check.due("no streets", x.nearest(1, 0, 0), -1);
-        Check.due("no streets, many", x.nearest(1, 0, 1), -1);
+        Check.due("no streets, changes", x.nearest(1, 0, 1), -1);
     }
 }

@@ -520,14 +520,10 @@ final class PlainModel {
             return -1;
         }
         for (int apart = 0; apart <= 10; apart++) {
-            List<Integer> those = new ArrayList<>();
             for (int s = 0; s < now.streets.size(); s++) {
                 if (!(kind == 0 && s == k) && changesOf(name, now.streets.get(s).name) == apart) {
-                    those.add(s);
+                    return what == 0 ? s : apart;
                 }
-            }
-            if (!those.isEmpty()) {
-                return what == 0 ? those.get(0) : those.size();
             }
         }
         return -1;
