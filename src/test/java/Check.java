@@ -2,16 +2,38 @@
 final class Check {
     private static int right = 0;
     private static int wrong = 0;
+    /** The words of the document that the answers are held against; empty where a test names none. */
+    private static String sentence = "";
+    private static int heldOfSentence = 1;
 
     private Check() {
     }
 
+    /** From here on answers are held against these words of a promise or a term. */
+    static void sentence(String where, String words) {
+        if (heldOfSentence == 0) {
+            tellWrong("nothing is held against it");
+        }
+        sentence = where + ", \"" + words + "\": ";
+        heldOfSentence = 0;
+    }
+
+    private static void tellWrong(String what) {
+        wrong++;
+        heldOfSentence++;
+        System.out.println(sentence + what);
+    }
+
+    private static void tellRight() {
+        right++;
+        heldOfSentence++;
+    }
+
     static void due(String call, long got, long want) {
         if (got == want) {
-            right++;
+            tellRight();
         } else {
-            wrong++;
-            System.out.println(call + " answered " + got + ", due is " + want);
+            tellWrong(call + " answered " + got + ", due is " + want);
         }
     }
 
@@ -50,6 +72,29 @@ final class Check {
         return x;
     }
 
+    /** A text with a FAULT, which is refused. */
+    static void faulty(String text, int fault, int place) {
+        StreetNames x = new StreetNames();
+        due("town of \"" + text + "\"", town(x, text), -1);
+        due("fault of \"" + text + "\"", x.fault(0), fault);
+        due("place in \"" + text + "\"", x.fault(1), place);
+        due("refused \"" + text + "\"", x.status(1), 1);
+    }
+
+    /** A text without a FAULT. */
+    static void sound(String text) {
+        StreetNames x = new StreetNames();
+        due("town of \"" + text + "\" is refused", town(x, text) == -1, false);
+        due("fault of \"" + text + "\"", x.fault(0), 0);
+        due("place in \"" + text + "\"", x.fault(1), -1);
+        due("refused \"" + text + "\"", x.status(1), 0);
+    }
+
+    /** What has() tells of a text without a FAULT. */
+    static void has(String text, int what, int want) {
+        due("has(" + what + ") of \"" + text + "\"", of(text).has(what), want);
+    }
+
     static int find(StreetNames x, String word) {
         write(x, word);
         return x.find();
@@ -83,14 +128,14 @@ final class Check {
 
     static void same(String call, String got, String want) {
         if (got.equals(want)) {
-            right++;
+            tellRight();
         } else {
-            wrong++;
-            System.out.println(call + " is " + got + ", due is " + want);
+            tellWrong(call + " is " + got + ", due is " + want);
         }
     }
 
     static void finish(String test) {
+        sentence("", "");
         System.out.println(test + ": " + right + " answers as due, " + wrong + " not");
         if (wrong != 0) {
             System.exit(1);

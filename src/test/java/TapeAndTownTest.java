@@ -135,169 +135,155 @@ public final class TapeAndTownTest {
         Check.due("a pair told behind the streets", x.alike(0, 0, 0, 1), 1);
     }
 
-    private static void faulty(String text, int fault, int place) {
-        StreetNames x = new StreetNames();
-        Check.due("town of \"" + text + "\"", Check.town(x, text), -1);
-        Check.due("fault of \"" + text + "\"", x.fault(0), fault);
-        Check.due("place in \"" + text + "\"", x.fault(1), place);
-        Check.due("refused \"" + text + "\"", x.status(1), 1);
-    }
-
-    private static void sound(String text) {
-        StreetNames x = new StreetNames();
-        Check.due("town of \"" + text + "\" is refused", Check.town(x, text) == -1, false);
-        Check.due("fault of \"" + text + "\"", x.fault(0), 0);
-    }
-
     private static void faultsOfText() {
-        faulty("nea", 1, 0);
-        faulty("nearest 1;", 1, 0);
-        faulty("oak;", 1, 0);
-        faulty("left;", 1, 0);
-        faulty("of;", 1, 0);
-        faulty("7;", 1, 0);
-        faulty("Near 1;", 1, 0);
-        faulty("near", 1, 4);
-        faulty("near  ", 1, 6);
-        faulty("near 1", 1, 6);
-        faulty("near 1 2;", 1, 7);
-        faulty("near a;", 1, 5);
-        faulty("near -1;", 1, 5);
-        faulty("near ;", 1, 5);
-        faulty("near 1;;", 1, 7);
-        faulty("near\t1;", 1, 4);
-        faulty("near 00001;", 1, 5);
-        faulty("near1;", 1, 4);
-        faulty("near 1a;", 1, 6);
-        faulty("last 1;last 1;", 1, 7);
-        faulty("step 1;step 1;", 1, 7);
-        faulty("mute a;mute b;", 1, 7);
-        faulty("mute;", 1, 4);
-        faulty("mute 1;", 1, 5);
-        faulty("mute a b;", 1, 7);
-        faulty("mute abcdefghijklmnopqrstuvwxyza;", 1, 5);
-        faulty("same abcdefghijklmnopqrstuvwxyzz;", 1, 5);
-        faulty("same a;", 1, 5);
-        faulty("same;", 1, 4);
-        faulty("same 12;", 1, 5);
-        faulty("pair a b;", 1, 5);
-        faulty("pair ab;", 1, 7);
-        faulty("pair ab cc;", 1, 8);
-        faulty("pair ab c d;", 1, 10);
-        faulty("street;", 1, 6);
-        faulty("street a b;", 1, 9);
-        faulty("street a1;", 1, 8);
-        faulty("street pool;", 1, 7);
-        faulty("street abcdefghijk;", 1, 7);
-        faulty("street a,", 1, 8);
-        faulty("street a;house a;", 1, 16);
-        faulty("street a;house a of 1 1;", 1, 17);
-        faulty("street a;house a left;", 1, 21);
-        faulty("street a;house a left1 1;", 1, 21);
-        faulty("street a;house a left 1;", 1, 23);
-        faulty("street a;house a left 1 1 1;", 1, 26);
-        faulty("street a;house a left 1 12345;", 1, 24);
-        faulty("street a;house a left 10000 1;", 1, 22);
-        faulty("street a;house pair left 1 1;", 1, 15);
-        faulty("alias;", 1, 5);
-        faulty("alias of of a;", 1, 6);
-        faulty("street a;alias b a;", 1, 17);
-        faulty("street a;alias b of;", 1, 19);
-        faulty("street a;alias b of of;", 1, 20);
-        faulty("street a;alias b of a b;", 1, 22);
-        faulty("pool;", 1, 4);
-        faulty("pool a", 1, 6);
-        faulty("pool a of;", 1, 7);
-        faulty("pool a abcdefghijk;", 1, 7);
-        faulty("pool a 1;", 1, 7);
-        faulty("street a" + (char) 0 + ";", 1, 8);
-        faulty("street a" + (char) 228 + ";", 1, 8);
+        Check.faulty("nea", 1, 0);
+        Check.faulty("nearest 1;", 1, 0);
+        Check.faulty("oak;", 1, 0);
+        Check.faulty("left;", 1, 0);
+        Check.faulty("of;", 1, 0);
+        Check.faulty("7;", 1, 0);
+        Check.faulty("Near 1;", 1, 0);
+        Check.faulty("near", 1, 4);
+        Check.faulty("near  ", 1, 6);
+        Check.faulty("near 1", 1, 6);
+        Check.faulty("near 1 2;", 1, 7);
+        Check.faulty("near a;", 1, 5);
+        Check.faulty("near -1;", 1, 5);
+        Check.faulty("near ;", 1, 5);
+        Check.faulty("near 1;;", 1, 7);
+        Check.faulty("near\t1;", 1, 4);
+        Check.faulty("near 00001;", 1, 5);
+        Check.faulty("near1;", 1, 4);
+        Check.faulty("near 1a;", 1, 6);
+        Check.faulty("last 1;last 1;", 1, 7);
+        Check.faulty("step 1;step 1;", 1, 7);
+        Check.faulty("mute a;mute b;", 1, 7);
+        Check.faulty("mute;", 1, 4);
+        Check.faulty("mute 1;", 1, 5);
+        Check.faulty("mute a b;", 1, 7);
+        Check.faulty("mute abcdefghijklmnopqrstuvwxyza;", 1, 5);
+        Check.faulty("same abcdefghijklmnopqrstuvwxyzz;", 1, 5);
+        Check.faulty("same a;", 1, 5);
+        Check.faulty("same;", 1, 4);
+        Check.faulty("same 12;", 1, 5);
+        Check.faulty("pair a b;", 1, 5);
+        Check.faulty("pair ab;", 1, 7);
+        Check.faulty("pair ab cc;", 1, 8);
+        Check.faulty("pair ab c d;", 1, 10);
+        Check.faulty("street;", 1, 6);
+        Check.faulty("street a b;", 1, 9);
+        Check.faulty("street a1;", 1, 8);
+        Check.faulty("street pool;", 1, 7);
+        Check.faulty("street abcdefghijk;", 1, 7);
+        Check.faulty("street a,", 1, 8);
+        Check.faulty("street a;house a;", 1, 16);
+        Check.faulty("street a;house a of 1 1;", 1, 17);
+        Check.faulty("street a;house a left;", 1, 21);
+        Check.faulty("street a;house a left1 1;", 1, 21);
+        Check.faulty("street a;house a left 1;", 1, 23);
+        Check.faulty("street a;house a left 1 1 1;", 1, 26);
+        Check.faulty("street a;house a left 1 12345;", 1, 24);
+        Check.faulty("street a;house a left 10000 1;", 1, 22);
+        Check.faulty("street a;house pair left 1 1;", 1, 15);
+        Check.faulty("alias;", 1, 5);
+        Check.faulty("alias of of a;", 1, 6);
+        Check.faulty("street a;alias b a;", 1, 17);
+        Check.faulty("street a;alias b of;", 1, 19);
+        Check.faulty("street a;alias b of of;", 1, 20);
+        Check.faulty("street a;alias b of a b;", 1, 22);
+        Check.faulty("pool;", 1, 4);
+        Check.faulty("pool a", 1, 6);
+        Check.faulty("pool a of;", 1, 7);
+        Check.faulty("pool a abcdefghijk;", 1, 7);
+        Check.faulty("pool a 1;", 1, 7);
+        Check.faulty("street a" + (char) 0 + ";", 1, 8);
+        Check.faulty("street a" + (char) 228 + ";", 1, 8);
     }
 
     private static void faultsOfNumbers() {
-        faulty("near 4;", 2, 5);
-        faulty("near 9999", 2, 5);
-        faulty("near 4x", 2, 5);
-        faulty("last 100;", 2, 5);
-        faulty("step 0;", 2, 5);
-        faulty("step 100;", 2, 5);
-        faulty("street a;house a left 0 0;", 2, 24);
-        faulty("street a;house a left 0 1000;", 2, 24);
-        sound("street a;house a left 9999 999;house a right 0000 0001;");
-        sound("near 3;last 99;step 99;");
+        Check.faulty("near 4;", 2, 5);
+        Check.faulty("near 9999", 2, 5);
+        Check.faulty("near 4x", 2, 5);
+        Check.faulty("last 100;", 2, 5);
+        Check.faulty("step 0;", 2, 5);
+        Check.faulty("step 100;", 2, 5);
+        Check.faulty("street a;house a left 0 0;", 2, 24);
+        Check.faulty("street a;house a left 0 1000;", 2, 24);
+        Check.sound("street a;house a left 9999 999;house a right 0000 0001;");
+        Check.sound("near 3;last 99;step 99;");
     }
 
     private static void faultsOfLetters() {
-        faulty("mute aba;", 3, 5);
-        faulty("mute street;", 3, 5);
-        faulty("same aa;", 3, 5);
-        faulty("same ab;same ca;", 3, 13);
-        faulty("pair aa b;pair aa c;", 3, 15);
-        sound("pair ab c;pair ba c;");
-        sound("same ab;mute ab;pair ab a;");
-        sound("pair aa a;");
+        Check.faulty("mute aba;", 3, 5);
+        Check.faulty("mute street;", 3, 5);
+        Check.faulty("same aa;", 3, 5);
+        Check.faulty("same ab;same ca;", 3, 13);
+        Check.faulty("pair aa b;pair aa c;", 3, 15);
+        Check.sound("pair ab c;pair ba c;");
+        Check.sound("same ab;mute ab;pair ab a;");
+        Check.sound("pair aa a;");
     }
 
     private static void faultsOfNames() {
-        faulty("street a;pool a;", 3, 14);
-        faulty("pool a;street a;", 3, 14);
-        faulty("pool a;pool a;", 3, 12);
-        faulty("street a;alias b of a;street b;", 3, 29);
-        faulty("street a;alias b of a;pool c b;", 3, 29);
-        faulty("street a;alias a of a;", 3, 15);
-        faulty("street a;alias b of b;", 3, 20);
-        faulty("street a;pool b;alias b of a;", 3, 22);
-        faulty("street a;pool b;alias c of b;", 3, 27);
-        faulty("street a;alias b of a;alias c of b;", 3, 33);
-        faulty("street a;alias b of a;house b left 1 1;", 3, 28);
-        faulty("house a left 1 1;street a;", 3, 6);
-        faulty("alias b of a;street a;", 3, 11);
-        faulty("street a;house a left 5 1;house a left 05 1;", 3, 39);
-        sound("street a;house a left 5 1;house a right 5 1;");
-        sound("street a;street b;house a left 5 1;house b left 5 1;");
+        Check.faulty("street a;pool a;", 3, 14);
+        Check.faulty("pool a;street a;", 3, 14);
+        Check.faulty("pool a;pool a;", 3, 12);
+        Check.faulty("street a;alias b of a;street b;", 3, 29);
+        Check.faulty("street a;alias b of a;pool c b;", 3, 29);
+        Check.faulty("street a;alias a of a;", 3, 15);
+        Check.faulty("street a;alias b of b;", 3, 20);
+        Check.faulty("street a;pool b;alias b of a;", 3, 22);
+        Check.faulty("street a;pool b;alias c of b;", 3, 27);
+        Check.faulty("street a;alias b of a;alias c of b;", 3, 33);
+        Check.faulty("street a;alias b of a;house b left 1 1;", 3, 28);
+        Check.faulty("house a left 1 1;street a;", 3, 6);
+        Check.faulty("alias b of a;street a;", 3, 11);
+        Check.faulty("street a;house a left 5 1;house a left 05 1;", 3, 39);
+        Check.sound("street a;house a left 5 1;house a right 5 1;");
+        Check.sound("street a;street b;house a left 5 1;house b left 5 1;");
     }
 
     private static void faultsOfLimits() {
         String streets = "street a;street b;street c;street d;street e;street f;street g;street h;street i;street j;";
-        sound(streets);
-        faulty(streets + "street k;", 4, streets.length());
-        faulty(streets + "street", 4, streets.length());
-        faulty(streets + "street a;", 4, streets.length());
+        Check.sound(streets);
+        Check.faulty(streets + "street k;", 4, streets.length());
+        Check.faulty(streets + "street", 4, streets.length());
+        Check.faulty(streets + "street a;", 4, streets.length());
 
         StringBuilder houses = new StringBuilder("street a;street b;");
         for (int i = 0; i < 12; i++) {
             houses.append("house a ").append(i % 2 == 0 ? "left " : "right ").append(i).append(" 1;");
         }
-        sound(houses + "house b left 1 1;");
-        faulty(houses + "house a left 99 1;", 4, houses.length() + 6);
-        faulty(houses + "house a", 4, houses.length() + 6);
+        Check.sound(houses + "house b left 1 1;");
+        Check.faulty(houses + "house a left 99 1;", 4, houses.length() + 6);
+        Check.faulty(houses + "house a", 4, houses.length() + 6);
 
         StringBuilder aliases = new StringBuilder("street a;");
         for (int i = 0; i < 12; i++) {
             aliases.append("alias x").append((char) ('a' + i)).append(" of a;");
         }
-        sound(aliases.toString());
-        faulty(aliases + "alias y of a;", 4, aliases.length());
-        faulty(aliases + "alias", 4, aliases.length());
+        Check.sound(aliases.toString());
+        Check.faulty(aliases + "alias y of a;", 4, aliases.length());
+        Check.faulty(aliases + "alias", 4, aliases.length());
 
-        sound("pool a b c d e f g h i j k l;");
-        faulty("pool a b c d e f g h i j k l;pool m;", 4, 34);
-        faulty("pool a b c d e f g h i j k l a;", 3, 29);
-        faulty("pool a b c d e f g h i j k l of;", 1, 29);
+        Check.sound("pool a b c d e f g h i j k l;");
+        Check.faulty("pool a b c d e f g h i j k l;pool m;", 4, 34);
+        Check.faulty("pool a b c d e f g h i j k l a;", 3, 29);
+        Check.faulty("pool a b c d e f g h i j k l of;", 1, 29);
 
         String groups = "same ab;same cd;same ef;same gh;same ij;same kl;same mn;same op;";
-        sound(groups);
-        faulty(groups + "same qr;", 4, groups.length());
+        Check.sound(groups);
+        Check.faulty(groups + "same qr;", 4, groups.length());
         String pairs = "pair aa b;pair ab b;pair ac b;pair ad b;pair ae b;pair af b;pair ag b;pair ah b;";
-        sound(pairs);
-        faulty(pairs + "pair ai b;", 4, pairs.length());
-        faulty(pairs + "pair aa b;", 4, pairs.length());
+        Check.sound(pairs);
+        Check.faulty(pairs + "pair ai b;", 4, pairs.length());
+        Check.faulty(pairs + "pair aa b;", 4, pairs.length());
     }
 
     private static void faultsOfOrder() {
-        faulty("near 4;street a;street a", 2, 5);
-        faulty("street a;street a;near 4;", 3, 16);
-        faulty("street a;house b left 10000 1000;", 3, 15);
+        Check.faulty("near 4;street a;street a", 2, 5);
+        Check.faulty("street a;street a;near 4;", 3, 16);
+        Check.faulty("street a;house b left 10000 1000;", 3, 15);
     }
 
     private static void blanks() {
@@ -305,8 +291,8 @@ public final class TapeAndTownTest {
         Check.due("near", x.has(5), 2);
         Check.due("streets", x.has(0), 1);
         Check.due("pool", x.has(1), 2);
-        sound("");
-        sound("  \n");
+        Check.sound("");
+        Check.sound("  \n");
         x = Check.of("street a;");
         Check.due("an empty town", Check.town(x, "   "), 0);
         Check.due("no streets", x.has(0), 0);
