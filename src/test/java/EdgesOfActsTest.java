@@ -13,6 +13,7 @@ public final class EdgesOfActsTest {
         whatIsAnAct();
         lastTwenty();
         take();
+        takeKeys();
         takeOwnAlias();
         takeRefused();
         carry();
@@ -117,6 +118,23 @@ public final class EdgesOfActsTest {
         Check.due("one again", x.take(5, 5), 1);
     }
 
+    private static void takeKeys() {
+        Check.sentence("Term II", "It TAKES it: its NAME becomes an ALIAS of it, with its KEY");
+        StreetNames x = Check.of("near 0;same sz;street rose;street mist;pool lass misst;");
+        x.take(0, 0);
+        Check.same("the NAME", Check.name(x, 0, 0), "lass");
+        Check.same("its KEY", Check.key(x, 0, 0), "las");
+        Check.same("the ALIAS", Check.name(x, 2, 0), "rose");
+        Check.same("its KEY", Check.key(x, 2, 0), "rose");
+        Check.due("found by the new KEY", Check.find(x, "laz"), 300);
+        Check.due("not by the old one", Check.find(x, "roze"), -1);
+        Check.due("by the old NAME", Check.find(x, "rose"), 200);
+        x.take(1, 1);
+        x.take(0, 0);
+        Check.same("the second ALIAS", Check.name(x, 2, 1), "mist");
+        Check.same("its KEY", Check.key(x, 2, 1), "mist");
+    }
+
     private static void takeOwnAlias() {
         Check.sentence("Term II", "It TAKES it: its NAME becomes an ALIAS of it (the latest of all), a LIVE ALIAS of it"
             + " that is just the new NAME goes");
@@ -129,6 +147,9 @@ public final class EdgesOfActsTest {
         Check.same("0", Check.name(x, 2, 0), "oak");
         Check.same("1", Check.name(x, 2, 1), "elm");
         Check.same("2", Check.name(x, 2, 2), "yew");
+        for (int k = 0; k < 3; k++) {
+            Check.same("the KEY of " + k, Check.key(x, 2, k), Check.name(x, 2, k));
+        }
         Check.due("the STREET of 1", x.alias(1, 0), 1);
         Check.due("the STREET of 2", x.alias(2, 0), 0);
         Check.due("yew again", x.take(0, 1), 3);
@@ -309,6 +330,34 @@ public final class EdgesOfActsTest {
         Check.due("of the first STREET", x.tear(0, 0), 0);
         Check.due("the other stays", x.houses(1), 2);
         Check.due("the other's number", x.house(1, 0, 2), 3);
+        x = Check.of("street a;house a left 0 1;house a right 7 4;house a left 3 5;house a right 2 8;");
+        x.tear(0, 0);
+        int[][] due = {{1, 7, 4}, {0, 3, 5}, {1, 2, 8}};
+        for (int h = 0; h < 3; h++) {
+            for (int what = 0; what < 3; what++) {
+                Check.due("house(0, " + h + ", " + what + ")", x.house(0, h, what), due[h][what]);
+            }
+        }
+        tearOfTenStreets();
+    }
+
+    /** Ten STREETS of twelve HOUSES: the last of the last, the first of each. */
+    private static void tearOfTenStreets() {
+        StreetNames x = Check.of("street a;street b;street c;street d;street e;street f;street g;street h;street i;"
+            + "street j;");
+        for (int i = 0; i < 120; i++) {
+            x.build(i / 12, i % 2, 10 * i);
+        }
+        Check.due("the last of the last", x.tear(9, 11), 11);
+        for (int s = 0; s < 10; s++) {
+            Check.due("the first of " + s, x.tear(s, 0), s == 9 ? 10 : 11);
+        }
+        for (int i = 0; i < 109; i++) {
+            int was = 12 * (i / 11) + i % 11 + 1;
+            Check.due("side of " + was, x.house(i / 11, i % 11, 0), was % 2);
+            Check.due("yards of " + was, x.house(i / 11, i % 11, 1), 10 * was);
+            Check.due("number of " + was, x.house(i / 11, i % 11, 2), 2 * was + 1 + was % 2);
+        }
     }
 
     private static void tearRefused() {

@@ -242,6 +242,10 @@ public final class EdgesOfClashesTest {
         // mill clashes with both others, which do not clash; it has all the HOUSES
         StreetNames x = Check.of(streets("milk", "mill", "till") + houses("mill", 12) + "pool oak elm;");
         isPlan("one of 12 HOUSES ahead of two of none", x, 2, 12, -1, 0, -1);
+        x = Check.of(streets("milk", "till", "mill") + houses("mill", 12) + "pool oak elm;");
+        isPlan("one of 12 HOUSES and more bits ahead of two of none", x, 4, 12, -1, -1, 0);
+        x = Check.of(streets("mill", "milk", "till") + houses("mill", 12) + "pool oak elm;");
+        isPlan("one of 12 HOUSES and fewer bits ahead of two of none", x, 1, 12, 0, -1, -1);
         x = Check.of(streets("milk", "mill", "till") + "alias oat of milk;alias ells of till;" + houses("mill", 1)
             + "pool oak ella;");
         isPlan("two, where the one can get none", x, 5, 0, 0, -1, 1);
@@ -319,6 +323,10 @@ public final class EdgesOfClashesTest {
         isPlan("undone", x, -1, -1, -1, -1, -1);
         isPlan("2 CHANGES from it", Check.of("street aab;street aac;street zzz;alias oopp of zzz;pool oooo;"),
             1, 0, 0, -1, -1);
+        isPlan("ALIKE to its own NAME, and to it", Check.of("street aab;street aac;street zzz;alias xaabc of zzz;pool xaab;"),
+            -1, -1, -1, -1, -1);
+        isPlan("ALIKE to ALIASES of two", Check.of("street aab;street aac;alias ooop of aab;alias ooox of aac;pool oooo;"),
+            -1, -1, -1, -1);
         isPlan("its own", Check.of("street aab;street aac;alias ooop of aab;pool oooo;" + houses("aab", 2)),
             1, 2, 0, -1);
         isPlan("the other's own", Check.of("street aab;street aac;alias ooop of aac;pool oooo;" + houses("aac", 2)),

@@ -304,8 +304,24 @@ public final class EdgesOfHousesTest {
                 Check.due("house(0, " + h + ", " + what + ")", x.house(0, h, what), due[h][what]);
             }
         }
+        ofTenStreets();
         for (String side : new String[] {"left", "right"}) {
             Check.due("the last of 12 on the " + side, twelve(side).house(0, 11, 4), 11);
+        }
+    }
+
+    /** Twelve HOUSES in each of ten STREETS, no two with like yards or numbers on one side of the town. */
+    private static void ofTenStreets() {
+        StreetNames x = Check.of("step 10;street a;street b;street c;street d;street e;street f;street g;street h;"
+            + "street i;street j;");
+        for (int i = 0; i < 120; i++) {
+            x.build(i / 12, i % 2, 10 * i);
+        }
+        for (int i = 0; i < 120; i++) {
+            String which = "house(" + i / 12 + ", " + i % 12 + ", ";
+            Check.due(which + "0)", x.house(i / 12, i % 12, 0), i % 2);
+            Check.due(which + "1)", x.house(i / 12, i % 12, 1), 10 * i);
+            Check.due(which + "2)", x.house(i / 12, i % 12, 2), 2 * i + 1 + i % 2);
         }
     }
 
@@ -463,7 +479,12 @@ public final class EdgesOfHousesTest {
         Check.due("the other side's, greater", oak("", "left 0 5", "right 0 9").gaps(0, 0), 2);
         Check.due("twelve", twelve("left").gaps(0, 0), 0);
         Check.due("twelve", twelve("right").gaps(0, 1), 0);
+        StreetNames x = oak("", "left 0 1", "left 1 9");
+        x.tear(0, 1);
+        Check.due("9 torn down", x.gaps(0, 0), 0);
         Check.sentence("Promise 32", "0 without such ones");
+        x.tear(0, 0);
+        Check.due("all torn down", x.gaps(0, 0), 0);
         Check.due("no HOUSES, left", oak("").gaps(0, 0), 0);
         Check.due("no HOUSES, right", oak("").gaps(0, 1), 0);
         Check.due("even ones alone on the left", oak("", "left 0 8").gaps(0, 0), 0);

@@ -16,6 +16,7 @@ public final class EdgesOfNamesTest {
         keyEdges();
         twoNames();
         alias();
+        heardKey();
         heardEdges();
         heardAt();
         findOrder();
@@ -51,6 +52,10 @@ public final class EdgesOfNamesTest {
         key("pair ab c;pair bd e;", "abd", "cd");
         key("pair ab c;pair bd e;", "xbd", "xe");
         key("pair aa a;", "aaa", "a");
+        for (char behind = 'a'; behind <= 'z'; behind++) {
+            // nothing stands behind the tenth letter
+            key("pair x" + behind + " w;", "bcdefghijx", "bcdefghijx");
+        }
         key("pair ab z;pair ac z;pair ad z;pair ae z;pair af z;pair ag z;pair ah z;pair ai y;", "ai", "y");
     }
 
@@ -120,6 +125,7 @@ public final class EdgesOfNamesTest {
                 Check.due(k + 1 + " CHANGES by near " + near + ", turned", x.alike(1, k, 0, 0), k + 1 <= near ? 2 : 0);
             }
         }
+        nearByLength();
         Check.sentence("Term II", "ALIKE by sound (1), if their KEYS are the same");
         StreetNames x = Check.of("near 1;street abab;pool aabbaabb abax abba;");
         Check.due("KEYS alone", x.alike(0, 0, 1, 0), 1);
@@ -129,6 +135,25 @@ public final class EdgesOfNamesTest {
         Check.due("KEYS alone by near 0", x.alike(0, 0, 1, 0), 1);
         x = Check.of("near 1;street aab;pool ab;");
         Check.due("both", x.alike(0, 0, 1, 0), 3);
+    }
+
+    /** Letters that are left out and put in, at the beginning, in the middle, at the end, and all three. */
+    private static void nearByLength() {
+        String[][] rows = {{"xbcdef", "xybcdef", "xyzbcdef", "xyzwbcdef"}, {"bcdefx", "bcdefxy", "bcdefxyz", "bcdefxyzw"},
+            {"bcxdef", "bcxydef", "bcxyzdef", "bcxyzwdef"}, {"xbcdef", "xbcydef", "xbcydefz", "wxbcydefz"},
+            {"cdef", "def", "ef", "f"}, {"bcde", "bcd", "bc", "b"}, {"xcdef", "cdex", "xcdey", "uxcdey"}};
+        int[][] apart = {{1, 2, 3, 4}, {1, 2, 3, 4}, {1, 2, 3, 4}, {1, 2, 3, 4}, {1, 2, 3, 4}, {1, 2, 3, 4}, {1, 2, 2, 3}};
+        for (int near = 0; near <= 3; near++) {
+            for (int row = 0; row < rows.length; row++) {
+                StreetNames x = Check.of("near " + near + ";street bcdef;pool " + String.join(" ", rows[row]) + ";");
+                for (int k = 0; k < 4; k++) {
+                    int due = apart[row][k] <= near ? 2 : 0;
+                    Check.due("CHANGES of bcdef and " + rows[row][k], x.changes(0, 0, 1, k), apart[row][k]);
+                    Check.due("bcdef and " + rows[row][k] + " by near " + near, x.alike(0, 0, 1, k), due);
+                    Check.due(rows[row][k] + " and bcdef by near " + near, x.alike(1, k, 0, 0), due);
+                }
+            }
+        }
     }
 
     private static void live() {
@@ -170,6 +195,19 @@ public final class EdgesOfNamesTest {
         x.undo();
         x.years(99);
         Check.due("none in 104", x.has(2), 0);
+        x = Check.of("last 2;same ck;street oak;street elm;street ivy;alias yew of oak;pool bay rock;");
+        x.years(1);
+        x.take(1, 0);
+        x.take(2, 1);
+        x.years(2);
+        Check.due("those behind one that is gone", x.has(2), 2);
+        String[] names = {"elm", "ivy"};
+        for (int k = 0; k < 2; k++) {
+            Check.same("NAME " + k, Check.name(x, 2, k), names[k]);
+            Check.same("KEY " + k, Check.key(x, 2, k), names[k]);
+            Check.due("STREET " + k, x.alias(k, 0), k + 1);
+            Check.due("last YEAR " + k, x.alias(k, 1), 3);
+        }
     }
 
     /** One STREET of 10 letters and one of 1, two of the POOL, two ALIASES. */
@@ -276,6 +314,27 @@ public final class EdgesOfNamesTest {
         Check.due("with nothing told", new StreetNames().alias(0, 0), -1);
         x.years(1);
         Check.due("gone", x.alias(0, 0), -1);
+    }
+
+    private static void heardKey() {
+        Check.sentence("Promise 12", "The tape is a word: how many letters its KEY has");
+        StreetNames x = Check.of("mute h;same zs;same ck;pair ph f;street oak;");
+        String[][] rows = {{"s", "z"}, {"k", "c"}, {"phs", "fz"}, {"hhh", "h"}, {"ckzsck", "czc"}, {"ph", "f"},
+            {"rosehosek", "rozeozec"}};
+        for (String[] row : rows) {
+            Check.due("heard of " + row[0], Check.heard(x, row[0]), row[1].length());
+            for (int i = 0; i < row[1].length(); i++) {
+                Check.due("heardAt(" + i + ") of " + row[0], x.heardAt(i), row[1].charAt(i) - 'a' + 1);
+            }
+        }
+        x = Check.of("near 0;same zs;same ck;street rosek;");
+        Check.due("find by the KEY", Check.find(x, "rozzec"), 300);
+        x.keep(0);
+        Check.town(x, "near 0;same zk;street rosek;");
+        Check.due("find by another KEY", Check.find(x, "rozzec"), -1);
+        Check.due("find by that KEY", Check.find(x, "rosez"), 300);
+        x.back(0);
+        Check.due("find by the KEY that is back", Check.find(x, "rozzec"), 300);
     }
 
     private static void heardEdges() {

@@ -15,6 +15,8 @@ public final class EdgesOfTapeTest {
         townEmpty();
         townRefused();
         townTaken();
+        townBehindTown();
+        townBehindFault();
         fault();
         hasOthers();
         hasMost();
@@ -208,6 +210,55 @@ public final class EdgesOfTapeTest {
         Check.due("its year", x.has(4), 1);
         Check.due("image 0 stays", x.back(0), true);
         Check.due("its streets", x.has(0), 2);
+    }
+
+    /** As much of all as there may be, in 2000 bytes. */
+    private static String fullText() {
+        StringBuilder text = new StringBuilder("near 3;last 99;step 99;mute efgh;");
+        for (int i = 0; i < 8; i++) {
+            text.append("same ").append((char) ('a' + 2 * i)).append((char) ('b' + 2 * i)).append(';');
+            text.append("pair o").append((char) ('a' + i)).append(" z;");
+        }
+        for (int s = 0; s < 10; s++) {
+            text.append("street x").append((char) ('a' + s)).append(';');
+        }
+        for (int i = 0; i < 12; i++) {
+            text.append("alias y").append((char) ('a' + i)).append(" of xb;");
+            text.append("pool zzzzz").append((char) ('a' + i)).append(';');
+            text.append("house xa left ").append(i).append(" 1;");
+            text.append("house xb right ").append(i).append(" 1;");
+        }
+        return text.toString();
+    }
+
+    private static void townBehindTown() {
+        Check.sentence("Promise 4", "The tape is THE TOWN: nothing of an earlier one bears on it");
+        String[] texts = {"", "street oak;", "street ab;street ac;pool klmno;alias opq of ab;",
+            "same sb;pair tb c;mute c;street ab;street ac;pool klmno;house ac right 0 1;"};
+        for (String text : texts) {
+            StreetNames alone = Check.of(text);
+            StreetNames behind = Check.of(fullText());
+            behind.plan(0);
+            Check.due("town of \"" + text + "\"", Check.town(behind, text), alone.has(0));
+            String[] words = {"xc", "ya", "zzzzza", "cdob"};
+            Check.same("\"" + text + "\" behind a full town", Seen.answers(behind, words), Seen.answers(alone, words));
+        }
+    }
+
+    private static void townBehindFault() {
+        Check.sentence("Promise 4", "with a FAULT all else stays: nothing of a refused text bears on a later one");
+        String sound = "near 2;last 3;step 4;mute a;same bc;pair de f;street oak;house oak left 0 1;alias elm of oak;"
+            + "pool bay;";
+        for (String faulty : new String[] {"x", "x y", "7", "near 2", sound + "x", sound + "near 1;", sound + "street oak;",
+            fullText() + "street k;"}) {
+            StreetNames x = new StreetNames();
+            Check.due("\"" + faulty + "\"", Check.town(x, faulty), -1);
+            Check.due("a sound one behind it", Check.town(x, sound), 1);
+            int[] due = {1, 1, 1, 1, 0, 2, 3, 4, 1, 1, 1, 0};
+            for (int what = 0; what < due.length; what++) {
+                Check.due("has(" + what + ")", x.has(what), due[what]);
+            }
+        }
     }
 
     private static void fault() {

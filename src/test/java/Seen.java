@@ -25,6 +25,51 @@ final class Seen {
         return seen.text.toString();
     }
 
+    /** What the questions answer that look at several things at once, and who is meant by words. */
+    static String answers(StreetNames x, String... words) {
+        Seen seen = new Seen(x);
+        seen.town("now");
+        for (int one = -1; one < 3; one++) {
+            seen.ofStreet(one);
+            seen.ask(x.clash(one));
+            seen.ask(x.plan(one));
+            for (int other = 0; other < 2; other++) {
+                seen.ofTwo(one, other);
+            }
+        }
+        seen.ask(x.least());
+        seen.ask(x.bill(7));
+        for (String word : words) {
+            seen.ask(Check.find(x, word));
+            seen.ask(Check.fades(x, word));
+            seen.ask(Check.heard(x, word));
+            seen.heard();
+            seen.calls += 6;
+        }
+        Check.due("calls of Seen are few", seen.calls <= MOST_CALLS, true);
+        return seen.text.toString();
+    }
+
+    private void ofStreet(int street) {
+        ask(x.circle(street));
+        ask(x.planned(street));
+        ask(x.takes(street, -1));
+        ask(x.ordered(street));
+        ask(x.fewest(street));
+        ask(x.stepped(street, 99));
+        ask(x.cost(street, 7));
+        ask(x.at(street, 1));
+    }
+
+    private void ofTwo(int one, int other) {
+        ask(x.alike(0, one, 1, other));
+        ask(x.nearest(one, other, 0));
+        ask(x.why(one, other));
+        ask(x.then(one, other));
+        ask(x.would(one, other, 5));
+        ask(x.gaps(one, other));
+    }
+
     private long ask(long answer) {
         calls++;
         text.append(answer).append(' ');
