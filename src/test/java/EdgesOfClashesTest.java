@@ -22,6 +22,7 @@ public final class EdgesOfClashesTest {
         planFewestHouses();
         planLeastBits();
         planFirstNames();
+        planSearch();
         planNames();
         planAliases();
         planCalledNow();
@@ -291,6 +292,27 @@ public final class EdgesOfClashesTest {
         // were the first STREET given the first NAME, none would be left for the second
         isPlan("the first STREET must leave the first", Check.of(two + "alias nnnx of aab;pool mmmm nnnn;"
             + houses("aac", 1) + houses("xxz", 1)), 5, 0, 1, -1, 0, -1);
+    }
+
+    /** Towns where NAMES that were given must be taken back many a time until all STREETS have one. */
+    private static void planSearch() {
+        isPlan("5 of 10 by 9", Check.of("near 1;"
+            + streets("acuvw bauvw acxyz ccuvw abuvw cbuvw abxyz caxyz bbuvw cbxyz".split(" "))
+            + "pool acklm cbklm ccklm bbklm aaklm bbcopq abbopq bbbrst acrst;"
+            + "alias cbbklm of bbuvw;alias aabklm of cbxyz;alias barst of abxyz;alias bcrst of ccuvw;alias cbcopq of ccuvw;"
+            + "alias bcaklm of cbuvw;"), 472, 0, -1, -1, -1, 5, 0, -1, 6, 7, 1, -1);
+        isPlan("4 of 9 by 10", Check.of("near 1;"
+            + streets("cbuvw cauvw aaxyz caxyz baxyz bcxyz aauvw acxyz bcuvw".split(" "))
+            + "pool abcrst acopq abrst acklm aaopq accklm caarst bbcklm aacrst bbcopq;"
+            + "alias bccklm of aauvw;alias cacrst of cauvw;alias cbcopq of aaxyz;alias bbklm of aauvw;"
+            + "alias cccopq of aaxyz;alias babopq of aaxyz;alias cbrst of aaxyz;alias ccklm of cauvw;"
+            + "alias bcbrst of baxyz;"), 46, 0, -1, 3, 9, 0, -1, 1, -1, -1, -1);
+        isPlan("6 of 10 by 9", Check.of("near 1;"
+            + streets("baxyz caxyz bbuvw ccxyz bcxyz bbxyz bauvw ccuvw cauvw bcuvw".split(" "))
+            + "pool acrst acklm bcrst abbrst bcklm aaopq baaopq acopq cbrst;"
+            + "alias abopq of caxyz;alias ccbrst of ccuvw;alias aaklm of bbuvw;alias bcbopq of bbuvw;"
+            + "alias bbklm of bbuvw;alias bbbopq of ccxyz;alias ccaopq of bcuvw;"), 215, 0,
+            0, 7, 1, -1, 3, -1, 6, 8, -1, -1);
     }
 
     private static void planNames() {

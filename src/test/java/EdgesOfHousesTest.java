@@ -192,6 +192,9 @@ public final class EdgesOfHousesTest {
         numbers(oak("", "left 0 9", "left 1 2", "left 2 3"), 2, 9, 11, 13);
         numbers(oak("", "left 50 99", "left 51 98", "left 90 97"), 2, 11, 13, 97);
         numbers(oak("", "left 10 1", "left 100 5", "left 110 7"), 3, 3, 21, 23);
+        numbers(oak("", "left 0 5", "left 1 2", "left 2 11", "left 3 4", "left 4 21"), 2, 5, 7, 11, 13, 21);
+        numbers(oak("", "left 0 5", "left 1 11", "left 2 21", "left 3 4", "left 4 31"), 1, 5, 11, 21, 23, 31);
+        numbers(oak("", "left 0 1", "left 1 5", "left 2 99", "left 3 7"), 1, 1, 5, 99, 101);
     }
 
     private static void fewestAtTheTop() {

@@ -240,7 +240,7 @@ public final class EdgesOfTapeTest {
             StreetNames behind = Check.of(fullText());
             behind.plan(0);
             Check.due("town of \"" + text + "\"", Check.town(behind, text), alone.has(0));
-            String[] words = {"xc", "ya", "zzzzza", "cdob"};
+            String[] words = {"xa", "xb", "xc", "ya", "zzzzza", "cdob"};
             Check.same("\"" + text + "\" behind a full town", Seen.answers(behind, words), Seen.answers(alone, words));
         }
     }

@@ -64,9 +64,11 @@ public final class LanguageTest {
         for (Method method : StreetNames.class.getDeclaredMethods()) {
             if (Modifier.isPublic(method.getModifiers())) {
                 open.add(method.getName());
-            } else {
-                Check.due("private " + method.getName() + " bears a public name", open.contains(method.getName()), false);
             }
+        }
+        for (Method method : StreetNames.class.getDeclaredMethods()) {
+            boolean isOpen = Modifier.isPublic(method.getModifiers());
+            Check.due(method.getName() + " bears a public name", open.contains(method.getName()), isOpen);
         }
         Class<?>[] inside = StreetNames.class.getDeclaredClasses();
         Check.due("classes are few", inside.length < MOST_CLASSES, true);

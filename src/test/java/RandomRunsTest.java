@@ -30,6 +30,9 @@ public final class RandomRunsTest {
             new RandomRunsTest(seed).run();
             new RandomRunsTest(seed).runPlans();
             new RandomRunsTest(seed).runNumbers();
+            if (seed % 3 == 0) {
+                new RandomRunsTest(seed).runTightPlan();
+            }
         }
         System.out.println("RandomRunsTest: " + runs + " runs, " + wrong + " differ");
         if (wrong != 0) {
@@ -64,6 +67,32 @@ public final class RandomRunsTest {
             askPlan();
             same("carry", x.carry(), y.carry());
             askPlan();
+        }
+        tellIfDiffers();
+    }
+
+    /** One town whose POOL is so near to ALIASES and to itself that the NAMES must be tried many ways. */
+    private void runTightPlan() {
+        List<String> names = new ArrayList<>();
+        int streets = 4 + below(7);
+        int pool = streets + 8 + below(5);
+        int all = pool + below(13);
+        StringBuilder text = new StringBuilder("near 1;");
+        while (names.size() < all) {
+            boolean isStreet = names.size() < streets;
+            String name = letters("abc", 1) + letters("abc", 1) + (isStreet || below(2) == 0 ? "" : letters("abc", 1))
+                + KIN[isStreet ? below(2) : 2 + below(3)];
+            if (!names.contains(name)) {
+                String of = isStreet ? "" : names.get(below(streets));
+                text.append(isStreet ? "street " + name : names.size() < pool ? "pool " + name
+                    : "alias " + name + " of " + of).append(';');
+                names.add(name);
+            }
+        }
+        tell(text.toString());
+        int[] got = y.thePlan();
+        for (int s = 0; s < streets; s++) {
+            same("planned(" + s + ")", x.planned(s), got == null ? -1 : got[s]);
         }
         tellIfDiffers();
     }
