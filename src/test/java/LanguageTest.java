@@ -24,6 +24,7 @@ public final class LanguageTest {
         + "boolean undo();long cost(int,long);long bill(long);boolean keep(int);boolean back(int);int status(int)";
     private static final int MOST_CLASSES = 12;
     private static final int MOST_LINES = 60;
+    private static final int MOST_FIELDS = 20;
 
     public static void main(String[] args) throws IOException {
         face();
@@ -70,6 +71,7 @@ public final class LanguageTest {
             boolean isOpen = Modifier.isPublic(method.getModifiers());
             Check.due(method.getName() + " bears a public name", open.contains(method.getName()), isOpen);
         }
+        fieldsAreFew(StreetNames.class);
         Class<?>[] inside = StreetNames.class.getDeclaredClasses();
         Check.due("classes are few", inside.length < MOST_CLASSES, true);
         for (Class<?> type : inside) {
@@ -84,7 +86,13 @@ public final class LanguageTest {
                 boolean isState = Modifier.isStatic(field.getModifiers()) && !Modifier.isFinal(field.getModifiers());
                 Check.due(field + " is static state", isState, false);
             }
+            fieldsAreFew(type);
         }
+    }
+
+    private static void fieldsAreFew(Class<?> type) {
+        long fields = Arrays.stream(type.getDeclaredFields()).filter(f -> !Modifier.isStatic(f.getModifiers())).count();
+        Check.due("fields of " + type.getName() + " are few", fields <= MOST_FIELDS, true);
     }
 
     /** The text without comments, texts and signs. */
